@@ -1,0 +1,39 @@
+/** Promise 11: the record that has the draft's name. */
+public final class FindTest {
+    public static void main(String[] args) {
+        FixupVolume v = new FixupVolume();
+        Check.directory(v, 0, "d");
+        Check.file(v, 1, "abcdefgh");
+        Check.file(v, 1, "abcdefg");
+        Check.file(v, 0, "x");
+        Check.same("d in the root", Check.found(v, 0, "d"), 1);
+        Check.same("x in the root", Check.found(v, 0, "x"), 4);
+        Check.same("x in d", Check.found(v, 1, "x"), FixupVolume.NONE);
+        Check.same("eight characters", Check.found(v, 1, "abcdefgh"), 2);
+        Check.same("seven of them", Check.found(v, 1, "abcdefg"), 3);
+        Check.same("six of them", Check.found(v, 1, "abcdef"), FixupVolume.NONE);
+        Check.same("the empty draft", v.find(0), FixupVolume.NONE);
+        noSuchDirectory(v);
+        draftIsEmptyBehindIt(v);
+        Check.end();
+    }
+
+    private static void noSuchDirectory(FixupVolume v) {
+        int[] none = {2, 4, 5, 11, 12, -1, Integer.MIN_VALUE, Integer.MAX_VALUE};
+        for (int d : none) {
+            Check.same("in " + d, Check.found(v, d, "x"), FixupVolume.NONE);
+            Check.same("the draft is empty behind it", v.find(0), FixupVolume.NONE);
+        }
+    }
+
+    private static void draftIsEmptyBehindIt(FixupVolume v) {
+        Check.found(v, 0, "x");
+        Check.call("found", () -> v.create(0, true), Check.ARGUMENT);
+        Check.found(v, 0, "y");
+        Check.call("not found", () -> v.create(0, true), Check.ARGUMENT);
+        Check.cutOff(v, 1, () -> v.write(4, 0, 1, 1));
+        Check.same("while off", Check.found(v, 0, "x"), FixupVolume.NONE);
+        v.mount();
+        Check.call("found while off", () -> v.create(0, true), Check.ARGUMENT);
+    }
+}
