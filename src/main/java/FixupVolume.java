@@ -399,7 +399,7 @@ public final class FixupVolume {
             }
             plan.append(place, 1);
         }
-        return sheet.nameBytes() + outsideBytes(plan) <= MOST_ATTRIBUTE_BYTES;
+        return sheet.nameBytes() + plan.attributeBytes() <= MOST_ATTRIBUTE_BYTES;
     }
 
     private static boolean needsCluster(Sheet sheet, int i, int at, int n) {
@@ -520,10 +520,6 @@ public final class FixupVolume {
 
     private static int endOfLastCluster(int size) {
         return clustersFor(size) * CLUSTER_BYTES;
-    }
-
-    private static int outsideBytes(Layout layout) {
-        return HEAD_BYTES + SIZE_BYTES + layout.runBytes() + END_BYTES;
     }
 
     private static int wordAt(int[] bytes, int from) {
@@ -680,8 +676,9 @@ public final class FixupVolume {
             return end - start;
         }
 
-        int runBytes() {
-            int bytes = 0;
+        /** How many bytes the attribute of a file has that lies so. */
+        int attributeBytes() {
+            int bytes = HEAD_BYTES + SIZE_BYTES + END_BYTES;
             for (int i = 0; i < count; i++) {
                 if (startsRun(i)) {
                     bytes += places[i] == HOLE ? HOLE_BYTES : RUN_BYTES;
@@ -690,23 +687,27 @@ public final class FixupVolume {
             return bytes;
         }
 
-        void encode(int[] image, int from) {
-            int p = from;
+        /** Puts the runs into an image that is 0 there: the place behind them. */
+        int encode(int[] image, int from) {
+            int end = from;
+            int lengthAt = from;
             int before = FIRST_DATA;
             for (int i = 0; i < count; i++) {
                 if (startsRun(i)) {
-                    image[p + 1] = lengthOfRun(i);
+                    lengthAt = end + 1;
                     if (places[i] == HOLE) {
-                        image[p] = HOLE_MARK;
-                        p += HOLE_BYTES;
+                        image[end] = HOLE_MARK;
+                        end += HOLE_BYTES;
                     } else {
-                        image[p] = RUN_MARK;
-                        image[p + 2] = (places[i] - before) & 255;
+                        image[end] = RUN_MARK;
+                        image[end + 2] = (places[i] - before) & 255;
                         before = places[i];
-                        p += RUN_BYTES;
+                        end += RUN_BYTES;
                     }
                 }
+                image[lengthAt]++;
             }
+            return end;
         }
 
         void decode(int[] image, int from, int end) {
@@ -758,7 +759,7 @@ public final class FixupVolume {
             if (kind == NO_KIND) {
                 return 0;
             }
-            return kind == OUTSIDE ? outsideBytes(layout) : HEAD_BYTES + size;
+            return kind == OUTSIDE ? layout.attributeBytes() : HEAD_BYTES + size;
         }
 
         int attributeBytes() {
@@ -801,29 +802,38 @@ public final class FixupVolume {
             image[0] = state;
             image[1] = parent;
             putWord(image, 2, number);
-            image[8] = attributeBytes();
-            if (name.length > 0) {
-                image[FIRST_ATTRIBUTE] = NAME;
-                image[FIRST_ATTRIBUTE + 1] = nameBytes();
-                System.arraycopy(name.letters, 0, image, FIRST_ATTRIBUTE + HEAD_BYTES, name.length);
-            }
-            encodeData(image, FIRST_ATTRIBUTE + nameBytes());
+            int end = encodeData(image, encodeName(image));
+            image[8] = end - FIRST_ATTRIBUTE;
             setAside(image, 4, SECTOR_BYTES - 2);
             setAside(image, 6, RECORD_BYTES - 2);
         }
 
-        private void encodeData(int[] image, int from) {
+        /** The place behind the name, as encodeData answers the one behind the data. */
+        private int encodeName(int[] image) {
+            if (name.length == 0) {
+                return FIRST_ATTRIBUTE;
+            }
+            image[FIRST_ATTRIBUTE] = NAME;
+            image[FIRST_ATTRIBUTE + 1] = HEAD_BYTES + name.length;
+            System.arraycopy(name.letters, 0, image, FIRST_ATTRIBUTE + HEAD_BYTES, name.length);
+            return FIRST_ATTRIBUTE + HEAD_BYTES + name.length;
+        }
+
+        private int encodeData(int[] image, int from) {
             if (kind == NO_KIND) {
-                return;
+                return from;
+            }
+            int end = from + HEAD_BYTES;
+            if (kind == OUTSIDE) {
+                putWord(image, end, size);
+                end = layout.encode(image, end + SIZE_BYTES) + END_BYTES;
+            } else {
+                System.arraycopy(held, 0, image, end, size);
+                end += size;
             }
             image[from] = kind;
-            image[from + 1] = dataBytes();
-            if (kind == OUTSIDE) {
-                putWord(image, from + HEAD_BYTES, size);
-                layout.encode(image, from + HEAD_BYTES + SIZE_BYTES);
-            } else {
-                System.arraycopy(held, 0, image, from + HEAD_BYTES, size);
-            }
+            image[from + 1] = end - from;
+            return end;
         }
 
         private void setAside(int[] image, int kept, int last) {

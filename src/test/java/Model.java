@@ -430,7 +430,10 @@ final class Model {
 
     private List<Integer> sorted(List<Integer> records) {
         List<Integer> all = new ArrayList<>(records);
-        all.sort((x, y) -> get(x).name.equals(get(y).name) ? Integer.compare(x, y) : get(x).name.compareTo(get(y).name));
+        all.sort((x, y) -> {
+            int names = get(x).name.compareTo(get(y).name);
+            return names != 0 ? names : Integer.compare(x, y);
+        });
         return all;
     }
 

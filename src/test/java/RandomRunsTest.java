@@ -52,12 +52,16 @@ public final class RandomRunsTest {
         if (got != due) {
             same = false;
             last.forEach(System.out::println);
-            System.out.println("run " + seed + ", call " + calls + ": " + what + " answered " + got + ", due is " + due);
+            System.out.println("run " + seed + ", call " + calls + ": " + what
+                    + " answered " + got + ", due is " + due);
         }
     }
 
     private void step() {
         if (!m.on() && random.nextInt(3) > 0) {
+            if (random.nextInt(3) == 0) {
+                fail();
+            }
             compare("mount()", v::mount, m::mount);
             return;
         }
@@ -186,7 +190,8 @@ public final class RandomRunsTest {
                 compare("read(" + r + ", " + k + ")", () -> v.read(r, k), () -> m.read(r, k));
                 break;
             case 5:
-                compare("run(" + r + ", " + k + ", " + what % 2 + ")", () -> v.run(r, k, what % 2), () -> m.run(r, k, what % 2));
+                compare("run(" + r + ", " + k + ", " + what % 3 + ")",
+                        () -> v.run(r, k, what % 3), () -> m.run(r, k, what % 3));
                 break;
             case 6:
                 compare("free()", v::free, m::free);

@@ -200,7 +200,8 @@ public final class WriteTest {
             Check.call("file " + r, () -> v.write(r, 0, 1, 1), Check.ARGUMENT);
         }
         int[][] places = {{-1, 1}, {1000, 1}, {1001, 1}, {0, 0}, {0, -1}, {0, 61}, {941, 60}, {999, 2},
-                {Integer.MAX_VALUE, 1}, {Integer.MAX_VALUE, Integer.MAX_VALUE}, {Integer.MIN_VALUE, 5}, {5, Integer.MIN_VALUE}};
+                {Integer.MAX_VALUE, 1}, {Integer.MAX_VALUE, Integer.MAX_VALUE},
+                {Integer.MIN_VALUE, 5}, {5, Integer.MIN_VALUE}};
         for (int[] p : places) {
             Check.call("at " + p[0] + ", n " + p[1], () -> v.write(1, p[0], p[1], 1), Check.ARGUMENT);
         }
