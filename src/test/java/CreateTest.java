@@ -9,6 +9,9 @@ public final class CreateTest {
         draftIsEmptyInAnyCase();
         goesOffAtEachSector();
         whileOffComesFirst();
+        shortestAndLongestName();
+        sameNameElsewhere();
+        deepestDirectory();
         Check.end();
     }
 
@@ -89,6 +92,12 @@ public final class CreateTest {
         Check.call("while off", () -> Check.file(v, 0, "b"), Check.STATE);
         v.mount();
         Check.call("and the draft is empty", () -> v.create(0, true), Check.ARGUMENT);
+        while (v.record(11, 0) == FixupVolume.NONE) {
+            Check.file(v, 0, "x" + v.record(0, 4));
+        }
+        Check.call("no record is free", () -> Check.file(v, 0, "left"), Check.UNSUPPORTED);
+        v.remove(11);
+        Check.call("and the draft is empty", () -> v.create(0, true), Check.ARGUMENT);
     }
 
     private static void goesOffAtEachSector() {
@@ -113,5 +122,43 @@ public final class CreateTest {
         Check.cutOff(v, 1, () -> Check.file(v, 0, "a"));
         Check.call("no such directory, off", () -> Check.file(v, -1, "a"), Check.STATE);
         Check.call("an empty draft, off", () -> v.create(0, true), Check.STATE);
+        FixupVolume w = new FixupVolume();
+        for (int r = 1; r < 12; r++) {
+            Check.file(w, 0, "f" + r);
+        }
+        Check.cutOff(w, 1, () -> w.remove(1));
+        Check.call("no record free, off", () -> Check.file(w, 0, "a"), Check.STATE);
+    }
+
+    private static void shortestAndLongestName() {
+        FixupVolume v = new FixupVolume();
+        Check.call("no character", () -> v.create(0, true), Check.ARGUMENT);
+        Check.call("one character", () -> Check.file(v, 0, "0"), 1);
+        Check.call("eight characters", () -> Check.directory(v, 0, "zzzzzzz9"), 2);
+        Check.call("the first eight of nine", () -> Check.file(v, 0, "zzzzzzz9a"), Check.ARGUMENT);
+        Check.bytes("one character", v, 64 + 8, 5, 0, 1, 3, '0', 2, 2, 0);
+        Check.bytes("eight", v, 128 + 8, 12, 0, 1, 10, 'z', 'z', 'z', 'z', 'z', 'z', 'z', '9', 4, 2, 0);
+    }
+
+    private static void sameNameElsewhere() {
+        FixupVolume v = new FixupVolume();
+        Check.directory(v, 0, "a");
+        Check.call("in the directory of that name", () -> Check.directory(v, 1, "a"), 2);
+        Check.call("once more below", () -> Check.file(v, 2, "a"), 3);
+        Check.call("a directory where a file has it", () -> Check.directory(v, 2, "a"), Check.ARGUMENT);
+        Check.call("a file where a directory has it", () -> Check.file(v, 0, "a"), Check.ARGUMENT);
+        v.remove(3);
+        Check.call("where none has it any more", () -> Check.directory(v, 2, "a"), 3);
+    }
+
+    private static void deepestDirectory() {
+        FixupVolume v = new FixupVolume();
+        for (int r = 1; r < 12; r++) {
+            Check.same("directory " + r, Check.directory(v, r - 1, "d"), r);
+        }
+        Check.same("the deepest one's parent", v.record(11, 1), 10);
+        Check.call("no record is free for one below it", () -> Check.file(v, 11, "f"), Check.UNSUPPORTED);
+        Check.same("all lead to the root", v.mount(), 0);
+        Check.same("the deepest one's parent", v.record(11, 1), 10);
     }
 }

@@ -11,6 +11,9 @@ public final class CutTest {
         sameSize();
         wrongArguments();
         goesOff();
+        emptyFile();
+        edgesOfSize();
+        behindTheEndOfATornCall();
         Check.end();
     }
 
@@ -138,5 +141,41 @@ public final class CutTest {
         Check.cutOff(v, 2, () -> v.cut(1, 20));
         Check.same("mount()", v.mount(), 1);
         Check.same("it was torn", v.record(1, 0), FixupVolume.NONE);
+    }
+
+    private static void emptyFile() {
+        FixupVolume v = withBytes(0);
+        Check.call("0 of 0 bytes", () -> v.cut(1, 0), 0);
+        Check.same("is written", v.record(1, 2), 2);
+        Check.call("1 of 0 bytes", () -> v.cut(1, 1), Check.ARGUMENT);
+        Check.same("isn't", v.record(1, 2), 2);
+    }
+
+    private static void edgesOfSize() {
+        int[] sizes = {1, 49, 50, 1000};
+        for (int size : sizes) {
+            FixupVolume v = withBytes(size);
+            Check.call("one more than " + size, () -> v.cut(1, size + 1), Check.ARGUMENT);
+            Check.call("less than nothing", () -> v.cut(1, -1), Check.ARGUMENT);
+            Check.call(size + " of " + size, () -> v.cut(1, size), size);
+            Check.same("its kind stays", v.record(1, 5), size <= 49 ? 2 : 3);
+            Check.call("one less", () -> v.cut(1, size - 1), size);
+            Check.same("its size", v.record(1, 4), size - 1);
+            Check.same("its kind", v.record(1, 5), size <= 49 ? 2 : 3);
+            Check.call("nothing", () -> v.cut(1, 0), size - 1);
+            Check.same("it is inside", v.record(1, 5), 2);
+            Check.same("free()", v.free(), 80);
+        }
+    }
+
+    /** What a write that went off left behind the end isn't seen when the file grows again. */
+    private static void behindTheEndOfATornCall() {
+        FixupVolume v = withBytes(50);
+        v.write(1, 50, 2, 1);
+        Check.cutOff(v, 1, () -> v.write(1, 52, 12, 90));
+        v.mount();
+        Check.same("left behind the end", v.at(DATA + 60), 98);
+        v.cut(1, 51);
+        Check.bytes("is 0 now", v, DATA + 50, 1, 0, 0, 0, 0, 0, 0, 0, 0, 0, 0, 0, 0, 0);
     }
 }

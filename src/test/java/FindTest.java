@@ -15,6 +15,7 @@ public final class FindTest {
         Check.same("the empty draft", v.find(0), FixupVolume.NONE);
         noSuchDirectory(v);
         draftIsEmptyBehindIt(v);
+        namesThatGo();
         Check.end();
     }
 
@@ -35,5 +36,19 @@ public final class FindTest {
         Check.same("while off", Check.found(v, 0, "x"), FixupVolume.NONE);
         v.mount();
         Check.call("found while off", () -> v.create(0, true), Check.ARGUMENT);
+    }
+
+    private static void namesThatGo() {
+        FixupVolume v = new FixupVolume();
+        Check.directory(v, 0, "d");
+        Check.same("in an empty list", Check.found(v, 1, "d"), FixupVolume.NONE);
+        Check.file(v, 0, "f");
+        v.move(2, 1);
+        Check.same("moved, where it was", Check.found(v, 0, "f"), FixupVolume.NONE);
+        Check.same("moved, where it is", Check.found(v, 1, "f"), 2);
+        v.remove(2);
+        Check.same("removed", Check.found(v, 1, "f"), FixupVolume.NONE);
+        Check.same("the first eight of nine", Check.file(v, 1, "abcdefgh"), 2);
+        Check.same("are found", Check.found(v, 1, "abcdefghi"), 2);
     }
 }

@@ -9,6 +9,12 @@ public final class MountTest {
         tornOnesKeepTheirBytes();
         clustersOfTornOnes();
         goesOffItself();
+        tornRootWithNothingInIt();
+        tornOnesAreNotInUse();
+        deepOnesStay();
+        childrenOfATornOneByRisingNumbers();
+        cutAtEachSector();
+        clustersOfRunsAlone();
         Check.end();
     }
 
@@ -157,5 +163,114 @@ public final class MountTest {
         Check.same("two sectors alone", w.mount(), 1);
         Check.same("mount() while on", w.mount(), 0);
         Check.call("the third", () -> w.write(1, 0, 1, 1), Check.STATE);
+    }
+
+    /** Its list is empty as at first, so it is written once alone. */
+    private static void tornRootWithNothingInIt() {
+        FixupVolume v = new FixupVolume();
+        Check.file(v, 0, "f");
+        Check.cutOff(v, 2, () -> v.write(1, 0, 1, 1));
+        Check.cutOff(v, 2, () -> v.mount());
+        Check.same("sector 0's number", v.at(30), 3);
+        Check.same("sector 1's number", v.at(62), 2);
+        Check.same("mount()", v.mount(), 1);
+        Check.list("the root", v, 0);
+        Check.bytes("as at first, with its next number", v, 0, 2, 0, 4, 0, 0, 0, 0, 0, 2, 0, 4, 2, 0, 0);
+        Check.same("sector 0's number", v.at(30), 4);
+        Check.same("sector 1's number", v.at(62), 4);
+        Check.same("record", v.record(0, 2), 4);
+        Check.same("mount() again", v.mount(), 0);
+    }
+
+    private static void tornOnesAreNotInUse() {
+        FixupVolume v = new FixupVolume();
+        Check.directory(v, 0, "d");
+        Check.file(v, 0, "f");
+        v.write(2, 0, 60, 1);
+        Check.cutOff(v, 2, () -> v.write(2, 0, 60, 2));
+        v.mount();
+        Check.cutOff(v, 4, () -> Check.file(v, 1, "g"));
+        v.mount();
+        Check.list("the root", v, 0, 2);
+        Check.cutOff(v, 2, () -> v.cut(2, 0));
+        v.mount();
+        for (int r = 1; r <= 2; r++) {
+            int torn = r;
+            Check.same("state byte of " + r, v.at(64 * r), 3 - r);
+            Check.same("record", v.record(r, 0), FixupVolume.NONE);
+            Check.same("read", v.read(r, 0), FixupVolume.NONE);
+            Check.same("run", v.run(r, 0, 0), FixupVolume.NONE);
+            Check.same("find", Check.found(v, r, "g"), FixupVolume.NONE);
+            Check.call("create", () -> Check.file(v, torn, "h"), Check.ARGUMENT);
+            Check.call("write", () -> v.write(torn, 0, 1, 1), Check.ARGUMENT);
+            Check.call("cut", () -> v.cut(torn, 0), Check.ARGUMENT);
+            Check.call("remove", () -> v.remove(torn), Check.ARGUMENT);
+            Check.call("move", () -> Check.moved(v, torn, 0), Check.ARGUMENT);
+        }
+        Check.same("free()", v.free(), 80);
+    }
+
+    private static void deepOnesStay() {
+        FixupVolume v = new FixupVolume();
+        for (int r = 1; r < 12; r++) {
+            Check.directory(v, r - 1, "d");
+        }
+        Check.cutOff(v, 1, () -> v.remove(11));
+        Check.same("mount()", v.mount(), 0);
+        for (int r = 1; r < 12; r++) {
+            Check.same("parent of " + r, v.record(r, 1), r - 1);
+        }
+    }
+
+    /** A chain whose first one is torn: its child comes to the root, and then all below that lead there. */
+    private static void childrenOfATornOneByRisingNumbers() {
+        FixupVolume v = new FixupVolume();
+        for (int r = 1; r < 9; r++) {
+            Check.directory(v, r - 1, "d");
+        }
+        Check.cutOff(v, 4, () -> Check.file(v, 1, "f"));
+        Check.same("mount()", v.mount(), 3);
+        Check.list("the root, by names", v, 0, 2, 9);
+        Check.same("the torn one's child", v.record(2, 1), 0);
+        Check.same("the other child", v.record(9, 1), 0);
+        for (int r = 3; r < 9; r++) {
+            Check.same("parent of " + r, v.record(r, 1), r - 1);
+            Check.same("number of " + r, v.record(r, 2), r < 8 ? 2 : 1);
+        }
+    }
+
+    /** A file whose directory was torn: it is written, then the root; each sector of both can be cut. */
+    private static void cutAtEachSector() {
+        int[] writesBehindIt = {2, 1, 1, 2};
+        int[] length = {1, 0, 1, 1};
+        for (int n = 1; n <= 4; n++) {
+            FixupVolume v = new FixupVolume();
+            Check.directory(v, 0, "d");
+            Check.cutOff(v, 4, () -> Check.file(v, 1, "f"));
+            Check.cutOff(v, n, () -> v.mount());
+            Check.same("mount(), cut " + n, v.mount(), writesBehindIt[n - 1]);
+            Check.same("the root's list, cut " + n, v.record(0, 4), length[n - 1]);
+            Check.same("the file, cut " + n, v.record(2, 1), n == 2 ? FixupVolume.NONE : 0);
+        }
+        FixupVolume v = new FixupVolume();
+        Check.directory(v, 0, "d");
+        Check.cutOff(v, 4, () -> Check.file(v, 1, "f"));
+        v.fail(5);
+        Check.same("four sectors alone", v.mount(), 2);
+        Check.yes("on()", v.on());
+    }
+
+    private static void clustersOfRunsAlone() {
+        FixupVolume v = new FixupVolume();
+        Check.file(v, 0, "f");
+        v.write(1, 100, 10, 1);
+        v.mount();
+        Check.same("a hole takes none", v.free(), 79);
+        Check.cutOff(v, 1, () -> v.write(1, 0, 60, 1));
+        v.mount();
+        Check.same("a write that went off takes none", v.free(), 79);
+        Check.cutOff(v, 1, () -> v.remove(1));
+        v.mount();
+        Check.same("a remove that went off sets none free", v.free(), 79);
     }
 }

@@ -6,6 +6,8 @@ public final class MoveTest {
         listByNames();
         wrongArguments();
         goesOffAtEachSector();
+        farBelowItself();
+        nameOfAnotherThere();
         Check.end();
     }
 
@@ -87,5 +89,35 @@ public final class MoveTest {
         v.fail(7);
         Check.call("six sectors alone", () -> Check.moved(v, 3, 2), 0);
         Check.yes("on()", v.on());
+    }
+
+    private static void farBelowItself() {
+        FixupVolume v = new FixupVolume();
+        for (int r = 1; r < 12; r++) {
+            Check.directory(v, r - 1, "d" + r);
+        }
+        for (int d = 1; d < 12; d++) {
+            int below = d;
+            Check.call("into " + d, () -> Check.moved(v, 1, below), Check.ARGUMENT);
+        }
+        Check.call("the deepest one into the root", () -> Check.moved(v, 11, 0), 0);
+        Check.call("what it was below into it", () -> Check.moved(v, 1, 11), 0);
+        Check.call("now it is above", () -> Check.moved(v, 11, 10), Check.ARGUMENT);
+        Check.list("the root", v, 0, 11);
+        Check.list("the one that is above now", v, 11, 1);
+        Check.list("the deepest one", v, 10);
+        Check.same("all lead to the root", v.mount(), 0);
+    }
+
+    /** The directory has the name, by itself or by another record. */
+    private static void nameOfAnotherThere() {
+        FixupVolume v = withTwo();
+        Check.directory(v, 2, "f");
+        Check.call("a directory of that name", () -> Check.moved(v, 3, 2), Check.ARGUMENT);
+        Check.call("itself", () -> Check.moved(v, 3, 1), Check.ARGUMENT);
+        Check.call("its own name isn't in it", () -> Check.moved(v, 3, 4), 0);
+        Check.same("parent", v.record(3, 1), 4);
+        Check.call("nor in what is above", () -> Check.moved(v, 4, 1), 0);
+        Check.list("the directory", v, 1, 4);
     }
 }

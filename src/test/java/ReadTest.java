@@ -29,6 +29,20 @@ public final class ReadTest {
         for (int r : none) {
             Check.same("read(" + r + ", 0)", v.read(r, 0), FixupVolume.NONE);
         }
+        lastBytes();
         Check.end();
+    }
+
+    private static void lastBytes() {
+        int[] sizes = {1, 49, 50, 64, 65, 1000};
+        for (int size : sizes) {
+            FixupVolume v = new FixupVolume();
+            Check.file(v, 0, "f");
+            v.write(1, size - 1, 1, 200);
+            Check.same("the last of " + size, v.read(1, size - 1), 200);
+            Check.same("the one behind it", v.read(1, size), FixupVolume.NONE);
+            Check.same("the first of more than one", v.read(1, 0), size == 1 ? 200 : 0);
+            Check.same("the one before it", v.read(1, -1), FixupVolume.NONE);
+        }
     }
 }

@@ -6,6 +6,8 @@ public final class RemoveTest {
         directories();
         wrongArguments();
         goesOffAtEachSector();
+        howManyClusters();
+        lastOfAFullList();
         Check.end();
     }
 
@@ -81,5 +83,44 @@ public final class RemoveTest {
             Check.same("the file, cut " + n, v.record(1, 4), n < 4 ? 60 : FixupVolume.NONE);
             Check.same("free(), cut " + n, v.free(), n < 4 ? 76 : 80);
         }
+        FixupVolume v = new FixupVolume();
+        Check.file(v, 0, "f");
+        v.fail(5);
+        Check.call("four sectors alone", () -> v.remove(1), 0);
+    }
+
+    private static void howManyClusters() {
+        FixupVolume v = new FixupVolume();
+        Check.file(v, 0, "f");
+        Check.call("a file with no bytes", () -> v.remove(1), 0);
+        Check.file(v, 0, "f");
+        v.write(1, 0, 49, 1);
+        Check.call("one that is full inside", () -> v.remove(1), 0);
+        Check.file(v, 0, "f");
+        v.write(1, 999, 1, 1);
+        Check.call("holes are none", () -> v.remove(1), 1);
+        Check.file(v, 0, "f");
+        v.write(1, 100, 10, 1);
+        v.cut(1, 50);
+        Check.call("a hole alone", () -> v.remove(1), 0);
+        Check.file(v, 0, "f");
+        for (int at = 0; at < 1000; at += 50) {
+            v.write(1, at, 50, 1);
+        }
+        Check.call("as many as a file can have", () -> v.remove(1), 63);
+        Check.same("free()", v.free(), 80);
+    }
+
+    private static void lastOfAFullList() {
+        FixupVolume v = new FixupVolume();
+        Check.directory(v, 0, "d");
+        for (int r = 2; r < 12; r++) {
+            Check.file(v, 1, "f" + r);
+        }
+        for (int r = 11; r >= 2; r--) {
+            Check.call("with " + (r - 1) + " entries", () -> v.remove(1), Check.ARGUMENT);
+            v.remove(r);
+        }
+        Check.call("with none", () -> v.remove(1), 0);
     }
 }

@@ -15,6 +15,7 @@ public final class RunTest {
         v.mount();
         runs(v, dueLength, dueFirst);
         wrongArguments(v);
+        holeAlone();
         Check.end();
     }
 
@@ -40,5 +41,21 @@ public final class RunTest {
             Check.same("file " + r, v.run(r, 0, 0), FixupVolume.NONE);
             Check.same("file " + r, v.run(r, 0, 1), FixupVolume.NONE);
         }
+    }
+
+    private static void holeAlone() {
+        FixupVolume v = new FixupVolume();
+        Check.file(v, 0, "f");
+        Check.same("a file with no bytes", v.run(1, 0, 0), FixupVolume.NONE);
+        v.write(1, 100, 1, 1);
+        v.cut(1, 1);
+        Check.same("its length", v.run(1, 0, 0), 1);
+        Check.same("its first cluster", v.run(1, 0, 1), FixupVolume.NONE);
+        Check.same("behind it", v.run(1, 1, 0), FixupVolume.NONE);
+        v.cut(1, 0);
+        Check.same("inside again", v.run(1, 0, 0), FixupVolume.NONE);
+        v.write(1, 100, 1, 1);
+        v.remove(1);
+        Check.same("removed", v.run(1, 0, 0), FixupVolume.NONE);
     }
 }

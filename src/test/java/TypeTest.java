@@ -5,6 +5,7 @@ public final class TypeTest {
         eightAtMost();
         refusedOnesLeaveTheDraft();
         whileOff();
+        keptByOtherCalls();
         Check.end();
     }
 
@@ -46,5 +47,24 @@ public final class TypeTest {
         v.mount();
         Check.same("create", v.create(0, true), 1);
         Check.same("find y", Check.found(v, 0, "y"), 1);
+    }
+
+    /** Only create and find make the draft empty, not a volume that goes off, nor mounting. */
+    private static void keptByOtherCalls() {
+        FixupVolume v = new FixupVolume();
+        Check.file(v, 0, "f");
+        Check.directory(v, 0, "d");
+        v.type('x');
+        v.write(1, 0, 1, 1);
+        v.cut(1, 0);
+        v.move(1, 2);
+        Check.call("a refused call", () -> v.remove(0), Check.ARGUMENT);
+        Check.cutOff(v, 1, () -> v.remove(1));
+        v.mount();
+        v.type('y');
+        v.mount();
+        v.remove(1);
+        Check.same("the lowest free record", v.create(0, true), 1);
+        Check.bytes("its name", v, 64 + 10, 1, 4, 'x', 'y', 2, 2);
     }
 }

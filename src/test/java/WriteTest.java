@@ -18,6 +18,14 @@ public final class WriteTest {
         tooManyRuns();
         goesOff();
         leftBytesBehindTheEnd();
+        edgesOfPlaceAndCount();
+        outsideStaysSoWhenSmall();
+        hasOneByteTooManyOfRuns();
+        runsBecomeOneAroundAHole();
+        holesBecomeOne();
+        lastClusterFilledToItsEnd();
+        otherBytesOfAFilledHole();
+        edgesOfAHolesClusters();
         Check.end();
     }
 
@@ -309,5 +317,139 @@ public final class WriteTest {
         FixupVolume y = withBytesBehindTheEnd();
         Check.cutOff(y, 1, () -> y.write(1, 55, 2, 1));
         Check.bytes("also if it goes off", y, DATA + 49, 50, 0, 0, 0, 0, 0, 1, 2, 0, 0, 0, 0, 0, 0, 0);
+    }
+
+    private static void edgesOfPlaceAndCount() {
+        int[][] good = {{0, 1}, {0, 60}, {1, 59}, {940, 60}, {999, 1}};
+        for (int[] p : good) {
+            FixupVolume v = withFile("f");
+            Check.call("at " + p[0] + ", n " + p[1], () -> v.write(1, p[0], p[1], 9), p[0] + p[1]);
+            Check.same("the first byte", v.read(1, p[0]), 9);
+            Check.same("the last byte", v.read(1, p[0] + p[1] - 1), 8 + p[1]);
+            Check.same("behind it", v.read(1, p[0] + p[1]), FixupVolume.NONE);
+        }
+        int[][] wrong = {{-1, 60}, {0, 0}, {0, 61}, {941, 60}, {999, 2}, {1000, 1}, {1000, 0}, {1001, 1}, {1001, -1}};
+        for (int[] p : wrong) {
+            FixupVolume v = withFile("f");
+            Check.call("at " + p[0] + ", n " + p[1], () -> v.write(1, p[0], p[1], 9), Check.ARGUMENT);
+            Check.same("its size", v.record(1, 4), 0);
+        }
+    }
+
+    private static void outsideStaysSoWhenSmall() {
+        FixupVolume v = withFile("f");
+        v.write(1, 0, 60, 1);
+        v.cut(1, 1);
+        Check.call("one byte behind it", () -> v.write(1, 1, 1, 7), 2);
+        Check.same("kind", v.record(1, 5), 3);
+        Check.same("free()", v.free(), 79);
+        Check.call("in its only cluster", () -> v.write(1, 0, 16, 7), 16);
+        Check.same("free()", v.free(), 79);
+        Check.call("in the next one", () -> v.write(1, 16, 1, 7), 17);
+        Check.same("free()", v.free(), 78);
+        v.cut(1, 0);
+        Check.same("with 0 bytes it is inside", v.record(1, 5), 2);
+        Check.call("and can be filled again", () -> v.write(1, 0, 49, 1), 49);
+        Check.same("inside", v.record(1, 5), 2);
+    }
+
+    /** A name of 8 leaves 39 bytes for runs, and eight holes with eight runs need 40. */
+    private static void hasOneByteTooManyOfRuns() {
+        FixupVolume v = withFile("abcdefgh");
+        for (int k = 0; k < 7; k++) {
+            v.write(1, 64 + 32 * k, 16, 1);
+        }
+        Check.same("attributes", v.record(1, 3), 50);
+        Check.call("a hole and a run more", () -> v.write(1, 64 + 32 * 7, 16, 1), Check.UNSUPPORTED);
+        Check.same("none was taken", v.free(), 73);
+        Check.same("the size stays", v.record(1, 4), 272);
+        Check.call("a run more where a hole begins", () -> v.write(1, 0, 1, 1), 272);
+        Check.same("attributes", v.record(1, 3), 53);
+        Check.call("a run more where a hole ends", () -> v.write(1, 63, 1, 1), Check.UNSUPPORTED);
+        Check.call("a hole's only cluster", () -> v.write(1, 80, 1, 1), 272);
+        Check.same("attributes", v.record(1, 3), 54);
+        Check.call("a hole's only cluster once more", () -> v.write(1, 112, 1, 1), Check.UNSUPPORTED);
+    }
+
+    /** Another file has cluster 48 or 49 first, so that what fills the hole lies beside the run. */
+    private static void runsBecomeOneAroundAHole() {
+        FixupVolume v = withFile("f");
+        Check.file(v, 0, "g");
+        v.write(2, 64, 16, 1);
+        v.write(1, 64, 16, 2);
+        v.cut(2, 0);
+        v.write(1, 48, 16, 3);
+        Check.same("one with the run behind it", v.run(1, 1, 0), 2);
+        Check.same("from the new cluster on", v.run(1, 1, 1), 48);
+        Check.same("runs", v.record(1, 6), 2);
+        FixupVolume w = withFile("f");
+        Check.file(w, 0, "g");
+        w.write(1, 64, 16, 1);
+        w.write(2, 64, 16, 1);
+        w.write(1, 96, 16, 2);
+        Check.same("runs", w.record(1, 6), 4);
+        w.cut(2, 0);
+        w.write(1, 80, 16, 3);
+        Check.same("one with those on both sides", w.run(1, 1, 0), 3);
+        Check.same("from the first one on", w.run(1, 1, 1), 48);
+        Check.same("runs", w.record(1, 6), 2);
+        Check.bytes("as it lies there", w, 64 + 13, 3, 10, 112, 0, 1, 4, 17, 3, 0, 0, 0);
+        Check.same("a byte of the third", w.read(1, 96), 2);
+    }
+
+    private static void holesBecomeOne() {
+        FixupVolume v = withFile("f");
+        v.write(1, 100, 10, 1);
+        v.cut(1, 40);
+        Check.same("a hole alone", v.run(1, 0, 0), 3);
+        v.write(1, 100, 10, 1);
+        Check.same("longer by what lies between", v.run(1, 0, 0), 6);
+        Check.same("runs", v.record(1, 6), 2);
+        Check.bytes("as it lies there", v, 64 + 13, 3, 10, 110, 0, 1, 6, 17, 1, 0, 0, 0);
+    }
+
+    private static void lastClusterFilledToItsEnd() {
+        FixupVolume v = withFile("f");
+        v.write(1, 0, 60, 100);
+        v.write(1, 60, 60, 160);
+        v.cut(1, 63);
+        Check.same("the next cluster is free and keeps its bytes", v.at(DATA + 64), 164);
+        Check.call("up to the cluster's end", () -> v.write(1, 63, 1, 1), 64);
+        Check.same("free()", v.free(), 76);
+        Check.same("the next cluster isn't touched", v.at(DATA + 64), 164);
+        Check.call("one byte more", () -> v.write(1, 64, 1, 2), 65);
+        Check.same("free()", v.free(), 75);
+        Check.bytes("0 behind it", v, DATA + 63, 1, 2, 0, 0, 0, 0, 0, 0, 0, 0, 0, 0, 0, 0, 0, 0, 0, 180);
+    }
+
+    /** The cluster that is given had bytes of another file. */
+    private static void otherBytesOfAFilledHole() {
+        FixupVolume v = withFile("f");
+        Check.file(v, 0, "g");
+        v.write(1, 100, 10, 1);
+        v.write(2, 0, 60, 100);
+        v.remove(2);
+        Check.same("what lies there", v.at(DATA + 16), 100);
+        v.write(1, 37, 3, 7);
+        for (int k = 0; k < 100; k++) {
+            Check.same("byte " + k, v.read(1, k), k >= 37 && k < 40 ? k - 30 : 0);
+        }
+    }
+
+    /** A hole's clusters are given for what is written in them, not for what only ends or begins beside them. */
+    private static void edgesOfAHolesClusters() {
+        int[][] written = {{16, 16, 1, 1}, {16, 15, 1, 1}, {17, 15, 1, 1}, {31, 1, 1, 1}, {15, 17, 0, 2},
+                {16, 17, 1, 2}, {15, 2, 0, 2}, {31, 2, 1, 2}, {0, 16, 0, 1}, {80, 16, 5, 1}, {15, 18, 0, 3}};
+        for (int[] w : written) {
+            FixupVolume v = withFile("f");
+            v.write(1, 96, 16, 1);
+            String what = "at " + w[0] + ", n " + w[1];
+            Check.call(what, () -> v.write(1, w[0], w[1], 9), 112);
+            Check.same(what + ": free()", v.free(), 79 - w[3]);
+            int k = w[2] == 0 ? 0 : 1;
+            Check.same(what + ": the hole before", k == 0 ? 0 : v.run(1, 0, 0), w[2]);
+            Check.same(what + ": its clusters", v.run(1, k, 0), w[3]);
+            Check.same(what + ": the first one", v.run(1, k, 1), 49);
+        }
     }
 }
