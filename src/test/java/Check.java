@@ -79,6 +79,16 @@ final class Check {
         return v.find(directory);
     }
 
+    /** Only an empty draft takes eight characters; it is empty again behind this. */
+    static void emptyDraft(String what, FixupVolume v) {
+        boolean isTaken = true;
+        for (int k = 0; k < 8; k++) {
+            isTaken &= v.type('q');
+        }
+        yes(what + ": the draft is empty behind it", isTaken);
+        v.find(0);
+    }
+
     /** Tells the cut for the n-th sector of a call, which must go off by it. */
     static void cutOff(FixupVolume v, int n, Call call) {
         yes("fail(" + n + ")", v.fail(n));

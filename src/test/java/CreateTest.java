@@ -80,24 +80,22 @@ public final class CreateTest {
 
     private static void draftIsEmptyInAnyCase() {
         FixupVolume v = new FixupVolume();
+        Check.same("a new one", Check.file(v, 0, "a"), 1);
+        Check.emptyDraft("a new one", v);
         Check.call("no directory", () -> Check.file(v, 5, "left"), Check.ARGUMENT);
-        Check.call("and the draft is empty", () -> v.create(0, true), Check.ARGUMENT);
-        Check.file(v, 0, "a");
+        Check.emptyDraft("no directory", v);
         Check.call("a name that is there", () -> Check.file(v, 0, "a"), Check.ARGUMENT);
-        Check.call("and the draft is empty", () -> v.create(0, true), Check.ARGUMENT);
+        Check.emptyDraft("a name that is there", v);
         Check.cutOff(v, 1, () -> Check.file(v, 0, "b"));
-        v.mount();
-        Check.call("and the draft is empty", () -> v.create(0, true), Check.ARGUMENT);
-        Check.cutOff(v, 1, () -> Check.file(v, 0, "b"));
+        Check.emptyDraft("goes off", v);
         Check.call("while off", () -> Check.file(v, 0, "b"), Check.STATE);
+        Check.emptyDraft("while off", v);
         v.mount();
-        Check.call("and the draft is empty", () -> v.create(0, true), Check.ARGUMENT);
-        while (v.record(11, 0) == FixupVolume.NONE) {
-            Check.file(v, 0, "x" + v.record(0, 4));
+        for (int r = 2; r < 12; r++) {
+            Check.file(v, 0, "x" + r);
         }
         Check.call("no record is free", () -> Check.file(v, 0, "left"), Check.UNSUPPORTED);
-        v.remove(11);
-        Check.call("and the draft is empty", () -> v.create(0, true), Check.ARGUMENT);
+        Check.emptyDraft("no record is free", v);
     }
 
     private static void goesOffAtEachSector() {

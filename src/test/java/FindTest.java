@@ -23,19 +23,23 @@ public final class FindTest {
         int[] none = {2, 4, 5, 11, 12, -1, Integer.MIN_VALUE, Integer.MAX_VALUE};
         for (int d : none) {
             Check.same("in " + d, Check.found(v, d, "x"), FixupVolume.NONE);
-            Check.same("the draft is empty behind it", v.find(0), FixupVolume.NONE);
         }
     }
 
     private static void draftIsEmptyBehindIt(FixupVolume v) {
-        Check.found(v, 0, "x");
-        Check.call("found", () -> v.create(0, true), Check.ARGUMENT);
-        Check.found(v, 0, "y");
-        Check.call("not found", () -> v.create(0, true), Check.ARGUMENT);
+        Check.same("x", Check.found(v, 0, "x"), 4);
+        Check.emptyDraft("found", v);
+        Check.same("y", Check.found(v, 0, "y"), FixupVolume.NONE);
+        Check.emptyDraft("not found", v);
+        Check.same("in a file", Check.found(v, 4, "y"), FixupVolume.NONE);
+        Check.emptyDraft("no such directory", v);
         Check.cutOff(v, 1, () -> v.write(4, 0, 1, 1));
         Check.same("while off", Check.found(v, 0, "x"), FixupVolume.NONE);
+        Check.emptyDraft("while off", v);
+        Check.same("no such directory while off", Check.found(v, 99, "x"), FixupVolume.NONE);
+        Check.emptyDraft("no such directory while off", v);
         v.mount();
-        Check.call("found while off", () -> v.create(0, true), Check.ARGUMENT);
+        Check.same("x again", Check.found(v, 0, "x"), 4);
     }
 
     private static void namesThatGo() {

@@ -15,6 +15,9 @@ public final class MountTest {
         childrenOfATornOneByRisingNumbers();
         cutAtEachSector();
         clustersOfRunsAlone();
+        listsByRisingNumbers();
+        straysByRisingNumbersBeforeLists();
+        rootBeforeStrays();
         Check.end();
     }
 
@@ -272,5 +275,57 @@ public final class MountTest {
         Check.cutOff(v, 1, () -> v.remove(1));
         v.mount();
         Check.same("a remove that went off sets none free", v.free(), 79);
+    }
+
+    /** A move that went off behind its first record: both lists are wrong, and the lower one is written first. */
+    private static void listsByRisingNumbers() {
+        for (int from = 1; from <= 2; from++) {
+            FixupVolume v = new FixupVolume();
+            Check.directory(v, 0, "z");
+            Check.directory(v, 0, "a");
+            Check.file(v, from, "f");
+            int to = 3 - from;
+            Check.cutOff(v, 3, () -> Check.moved(v, 3, to));
+            int[] before = {v.at(64 + 2), v.at(128 + 2)};
+            Check.cutOff(v, 3, () -> v.mount());
+            Check.same("record 1 was written", v.at(64 + 2), before[0] + 1);
+            Check.same("record 2 wasn't", v.at(128 + 2), before[1]);
+            Check.same("mount()", v.mount(), 1);
+            Check.list("where it was", v, from);
+            Check.list("where it is", v, to, 3);
+        }
+    }
+
+    /** Directory 1 is torn: records 2 and 4 come to the root, whose list is written behind them. */
+    private static void straysByRisingNumbersBeforeLists() {
+        int[] numbers = {1, 2, 2, 2, 2, 2};
+        int[] numbersOf4 = {1, 1, 1, 2, 2, 2};
+        int[] numbersOfRoot = {3, 3, 3, 3, 3, 4};
+        for (int n = 1; n <= 6; n++) {
+            FixupVolume v = new FixupVolume();
+            Check.directory(v, 0, "d");
+            Check.file(v, 1, "y");
+            Check.file(v, 0, "x");
+            Check.cutOff(v, 4, () -> Check.file(v, 1, "a"));
+            Check.cutOff(v, n, () -> v.mount());
+            Check.same("number of 2, cut " + n, v.at(128 + 2), numbers[n - 1]);
+            Check.same("number of 4, cut " + n, v.at(256 + 2), numbersOf4[n - 1]);
+            Check.same("number of the root, cut " + n, v.at(2), numbersOfRoot[n - 1]);
+            Check.same("number of 3, cut " + n, v.at(192 + 2), 1);
+        }
+    }
+
+    /** With the root torn nothing leads to it, until it is written as it was at first. */
+    private static void rootBeforeStrays() {
+        FixupVolume v = new FixupVolume();
+        Check.directory(v, 0, "d");
+        Check.file(v, 1, "f");
+        Check.cutOff(v, 4, () -> Check.file(v, 0, "e"));
+        Check.same("mount()", v.mount(), 2);
+        Check.same("its directory isn't written", v.record(1, 2), 2);
+        Check.same("nor what that has", v.record(2, 2), 1);
+        Check.same("whose parent stays", v.record(2, 1), 1);
+        Check.list("the root", v, 0, 1, 3);
+        Check.list("its directory", v, 1, 2);
     }
 }
